@@ -108,8 +108,10 @@ public final class CoversTest {
         due.finds("no choice", x, 1, x.wordy(2, 0, 3), 3);
         Due.row(x, 3, 1, 8, 4);
         due.finds("a choice not below", x, 2, x.wordy(2, 0, 3), 3);
+        Due.row(x, 3, 1, 8, 2);
+        due.finds("the first choice not below", x, 3, x.wordy(2, 3, 1), 3);
         Due.row(x, 3, 0, -1, 2);
-        due.finds("a choice below 0", x, 3, x.wordy(2, 3, 1), 3);
+        due.finds("a choice below 0", x, 4, x.wordy(2, 3, 1), 3);
         places("refused ones change nothing", x, 2, 0, 0, 8, 2);
         x.wet(2, 6);
         due.is("wordy anew", x.wordy(2, 0, 1), 3);
@@ -284,6 +286,13 @@ public final class CoversTest {
         due.finds("none there", x, 0, x.mark(5, 1), 1);
         x.grey(1, 0, 3, false);
         due.is("a shorter last line", x.mark(1, 1), 2);
+        x.grey(1, 0, 1, false);
+        due.is("lines of one", x.mark(1, 1), 5);
+        Due.row(x, 0, 200, 3);
+        x.grey(2, 0, 1, true);
+        due.is("the first DOT is above 127", x.mark(2, 2), 1);
+        x.cover(4, 4, 0);
+        due.is("the second DOT is less", x.mark(4, 4), 1);
         x.grey(1, 0, 40, false);
         due.is("a long line", x.mark(1, 1), 1);
     }

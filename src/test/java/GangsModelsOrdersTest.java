@@ -32,6 +32,7 @@ public final class GangsModelsOrdersTest {
         due.is("two", x.makes(0, 3, 0b000001), 1);
         due.is("bit 0 is 1 in both", x.makes(0, 3, 0b000110), 0);
         due.is("bit 3 is 0 in both", x.makes(0, 3, 0b001001), 0);
+        due.is("the greatest copy", x.makes(0, 4, 4095), 1);
         due.is("all three", x.makes(0, 7, 0b101010101011), 1);
         due.is("row 6", x.makes(6, 1, 0), HiddenWords.BAD);
         due.is("row -1", x.makes(-1, 1, 0), HiddenWords.BAD);
@@ -130,6 +131,10 @@ public final class GangsModelsOrdersTest {
         due.is("the least", x.apart(0), 1);
         Due.row(x, 0, 5, 6, 5);
         due.is("alike", x.apart(0), 0);
+        Due.row(x, 0, 0, 1, 4095);
+        due.is("neighbours", x.apart(0), 1);
+        Due.row(x, 0, 0, 15, 4095, 2047);
+        due.is("neighbours", x.apart(0), 1);
         Due.row(x, 0, 5);
         due.is("one name", x.apart(0), HiddenWords.NONE);
         due.is("row 6", x.apart(6), HiddenWords.BAD);
@@ -206,7 +211,10 @@ public final class GangsModelsOrdersTest {
         due.finds("SIZE of one", x, 0, x.bestTest(3, 0), 5);
         due.finds("SIZE of the other ahead of UNLIKE", x, 1, x.bestTest(4, 3), 5);
         due.finds("UNLIKE of one", x, 0, x.bestTest(4, 0), 3);
-        due.finds("UNLIKE of the other ahead of NOUGHT", x, 1, x.bestTest(5, 4), 3);
+        x.lay(4, 0, -1);
+        due.finds("UNLIKE of one, below 0", x, 1, x.bestTest(4, 0), 3);
+        x.bestTest(0, 2);
+        due.finds("UNLIKE of the other ahead of NOUGHT", x, 2, x.bestTest(5, 4), 3);
         due.finds("NOUGHT of one", x, 0, x.bestTest(5, 0), 4);
         due.finds("NOUGHT of the other", x, 1, x.bestTest(0, 5), 4);
         due.is("asked() stays", x.asked(), 3);

@@ -80,11 +80,11 @@ public final class PartsMarksTest {
         due.is("five pairs", x.join(0), 1);
         Due.row(x, 0, 10, 250);
         due.is("one pair", x.join(0), 250);
-        for (int[] wrong : new int[][] {{0, 5}, {11, 5}, {-1, 5}, {1, -1}, {1, 251}, {4, 5, 4, 5}, {4, 5, 3, 5, 4, 6}}) {
+        for (int[] wrong : new int[][] {{0, 5}, {11, 5}, {-1, 5}, {1, -1}, {1, 251}, {4, 5, 4, 5}, {4, 5, 3, 5, 4, 6}, {3, 5, 4, 5, 4, 6}}) {
             Due.row(x, 0, wrong);
             due.finds("a number, an i twice", x, x.findings(3), x.join(0), 3);
         }
-        due.is("seven of these", x.findings(3), 7);
+        due.is("eight of these", x.findings(3), 8);
     }
 
     private static void anyPartsJoin() {
@@ -183,6 +183,8 @@ public final class PartsMarksTest {
             }
             due.is("lineUp", x.lineUp(0, key), best);
             due.is("lineUp tells the SUM", x.asked(), most);
+            x.sum(0, key + 1, 0);
+            due.is("lineUp by its own KEY", x.lineUp(0, key), best);
         }
         HiddenWords x = new HiddenWords();
         due.is("shift -1", x.sum(0, 0, -1), HiddenWords.BAD);
@@ -279,6 +281,8 @@ public final class PartsMarksTest {
         due.is("not WET", x.wet(3, 0), 0);
         due.is("PRICE", Due.told(x, x.dot(3, 0, 3)), 10);
         due.is("its source stays", x.kind(0), 2);
+        due.is("cut of one", x.cut(0, 3, 1, 4), 1);
+        due.is("cut of one", Due.told(x, x.dot(4, 0, 0)), 6);
         due.is("cut in itself", x.cut(0, 2, 2, 0), 2);
         x.dots(0, 1);
         due.row("cut in itself", x, 1, "[7 6]");

@@ -106,6 +106,10 @@ public final class RowsTextsTest {
         due.is("copy down in itself", x.copy(0, 2, 0, 0, 3), 1);
         due.row("as if taken ahead", x, 0, "[2 3 4 3 4]");
         due.is("copy of none at the ends", x.copy(0, 5, 1, 3, 0), 1);
+        due.is("copy of all", x.copy(1, 0, 1, 0, 3), 1);
+        due.is("copy of all to another", x.copy(1, 0, 0, 2, 3), 1);
+        due.row("copy of all to another", x, 0, "[2 3 2 3 30]");
+        Due.row(x, 0, 2, 3, 4, 3, 4);
         due.is("copy(6, ..)", x.copy(6, 0, 0, 0, 0), HiddenWords.BAD);
         due.is("copy to 6", x.copy(0, 0, 6, 0, -1), HiddenWords.BAD);
         due.is("copy to -1", x.copy(0, 0, -1, 0, 0), HiddenWords.BAD);
@@ -135,6 +139,10 @@ public final class RowsTextsTest {
         due.is("mean of great ones", Due.told(x, x.mean(0)), MAX);
         Due.row(x, 0, MIN, MIN);
         due.is("mean of least ones", Due.told(x, x.mean(0)), MIN);
+        Due.row(x, 1, 9);
+        due.is("mean of one", Due.told(x, x.mean(1)), 9);
+        x.tear(1);
+        x.mean(0);
         due.is("mean(6)", x.mean(6), HiddenWords.BAD);
         due.is("mean(-1)", x.mean(-1), HiddenWords.BAD);
         due.finds("mean of nothing", x, 0, x.mean(1), 1);

@@ -106,6 +106,7 @@ public final class TellingTest {
         stays("findings", x, x.findings(1));
         stays("digest", x, x.digest());
         stays("price that can't be", x, x.price(1, 0, 3, 1));
+        stays("price, refused", x, x.price(6, 0, 0, 1));
         stays("at, refused", x, x.at(0, 5));
         stays("lay, refused", x, x.lay(0, 5, 1));
         stays("mean, refused", x, x.mean(4));
