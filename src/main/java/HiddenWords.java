@@ -481,7 +481,7 @@ public final class HiddenWords {
         cover.sort();
         int left = rank;
         for (int i = 0; i < cover.size; i++) {
-            int orders = countOrders(cover.size - 1 - i);
+            int orders = Math.max(1, countOrders(cover.size - 1 - i));
             cover.bringForward(i + left / orders, i);
             left %= orders;
         }
@@ -872,7 +872,7 @@ public final class HiddenWords {
             int many = choicesAt(i);
             if (many > 0) return 12 / many;
             if (width < 1) return 10;
-            int price = 60 / (1 + roughnessAt(i)) + 1;
+            int price = 60 / Math.max(1, 1 + roughnessAt(i)) + 1;
             return kind == PRINTED ? 2 * price : price;
         }
 

@@ -129,7 +129,8 @@ public final class TwinTest {
 
     /** The number of a ROW, a COVER, a TEXT, a CODE: there are few, so that most are there. */
     private int one(int most) {
-        return random.nextInt(40) == 0 ? near(0, most) : random.nextInt(most + 1);
+        int[] none = {-1, most + 1, Integer.MIN_VALUE, Integer.MAX_VALUE};
+        return random.nextInt(40) == 0 ? none[random.nextInt(4)] : random.nextInt(most + 1);
     }
 
     private int key() {
@@ -181,7 +182,8 @@ public final class TwinTest {
                 choices[i] = 1 + random.nextInt(9);
                 dots[i] = random.nextInt(4) == 0 ? choices[i] - 1 : random.nextInt(choices[i]);
             }
-            if (random.nextInt(12) == 0) dots[n - 1] = choices[n - 1];
+            if (random.nextInt(12) == 0) dots[n - 1] = random.nextBoolean() ? choices[n - 1] : -1;
+            if (random.nextInt(12) == 0) choices[0] = random.nextBoolean() ? 0 : 10;
             fill(4, dots);
             fill(5, choices);
             both("wordy", c, 4, 5);
