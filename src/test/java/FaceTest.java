@@ -8,6 +8,8 @@ import java.util.Arrays;
 import java.util.List;
 import java.util.Set;
 import java.util.TreeSet;
+import java.util.regex.Matcher;
+import java.util.regex.Pattern;
 
 /** The document's public face, and the rules of LANGUAGE.md that can be seen from outside. */
 public final class FaceTest {
@@ -19,10 +21,12 @@ public final class FaceTest {
             + " falseShare(int,int) cut(int,int,int,int) makes(int,int,int) guilty(int,int,int) apart(int) howFar(int,int)"
             + " bestTest(int,int) learn(int,int) pairs(int) rank(int) arrange(int,int) asked() upper():long lower():long"
             + " count(int) finding() findings(int) digest():long";
+    private static final Path DOCUMENT = Path.of("../shared/DOC.md");
     private static final Due due = new Due();
 
     public static void main(String[] args) throws Exception {
         methods();
+        if (Files.exists(DOCUMENT)) document(Files.readString(DOCUMENT));
         fields();
         for (Class<?> inside : HiddenWords.class.getDeclaredClasses()) insideClass(inside);
         due.holds("few classes inside", HiddenWords.class.getDeclaredClasses().length < 12);
@@ -61,6 +65,27 @@ public final class FaceTest {
             all.append(type.getName());
         }
         return all.append(method.getReturnType() == long.class ? "):long" : ")").toString();
+    }
+
+    /** The face that the document writes out, line by line. */
+    private static void document(String words) throws ReflectiveOperationException {
+        int from = words.indexOf("## The public face");
+        String face = words.substring(from, words.indexOf("## Terms", from));
+        Set<String> want = new TreeSet<>();
+        Matcher method = Pattern.compile("public (int|long) (\\w+)\\((.*?)\\);").matcher(face);
+        while (method.find()) {
+            String types = method.group(3).replaceAll(" \\w+(,|$)", "$1").replace(" ", "");
+            want.add(method.group(2) + "(" + types + (method.group(1).equals("long") ? "):long" : ")"));
+        }
+        due.holds("the document's face is " + want, want.equals(new TreeSet<>(Arrays.asList(FACE.split(" ")))));
+        Matcher constant = Pattern.compile("\\b([A-Z]+) = (-\\d+)").matcher(face);
+        int constants = 0;
+        while (constant.find()) {
+            constants++;
+            int value = HiddenWords.class.getField(constant.group(1)).getInt(null);
+            due.is(constant.group(1), value, Integer.parseInt(constant.group(2)));
+        }
+        due.is("the document's constants", constants, 6);
     }
 
     private static void fields() {
